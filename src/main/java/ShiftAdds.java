@@ -427,11 +427,11 @@ public final class ShiftAdds {
         }
 
         int value(int k) {
-            return isThere(k) ? odds[VALUE][k] : BAD;
+            return k >= 0 && k <= adders ? odds[VALUE][k] : BAD;
         }
 
         int depth(int k) {
-            return isThere(k) ? odds[DEPTH][k] : BAD;
+            return k >= 0 && k <= adders ? odds[DEPTH][k] : BAD;
         }
 
         int depthOver(int p, int q) {
@@ -631,25 +631,21 @@ public final class ShiftAdds {
                 start++;
             }
             behind = start;
-            if (start >= length) {
-                kind = END;
-            } else if (isDigit(letters[start])) {
-                stepOverNumber();
-            } else {
-                kind = letters[start];
-                behind++;
-            }
-        }
-
-        private void stepOverNumber() {
             number = 0;
             while (behind < length && isDigit(letters[behind])) {
                 // Eighty digits would not fit an int: all that is too great counts as the first that is.
                 number = Math.min(number * 10 + letters[behind] - '0', MOST_NUMBER + 1);
                 behind++;
             }
-            boolean zeroAhead = letters[start] == '0' && behind - start > 1;
-            kind = zeroAhead || number > MOST_NUMBER ? WRONG : NUMBER;
+            if (start >= length) {
+                kind = END;
+            } else if (behind > start) {
+                boolean zeroAhead = letters[start] == '0' && behind - start > 1;
+                kind = zeroAhead || number > MOST_NUMBER ? WRONG : NUMBER;
+            } else {
+                kind = letters[start];
+                behind++;
+            }
         }
 
         private static boolean isDigit(int letter) {
@@ -739,9 +735,9 @@ public final class ShiftAdds {
                 return;
             }
             ways[value >> 1] = THERE;
+            // What (k, other) makes, (other, k) makes too, by the other forms, and is ahead of it.
             for (int other = 0; other <= k; other++) {
                 offerAll(graph, other, k);
-                offerAll(graph, k, other);
             }
         }
 
@@ -776,7 +772,7 @@ public final class ShiftAdds {
         }
 
         boolean has(int v) {
-            return way(v) >= 0;
+            return isOddNumber(v) && ways[v >> 1] >= 0;
         }
 
         int howManyAbove(int v) {
@@ -847,7 +843,11 @@ public final class ShiftAdds {
 
         /** The number itself, if it is NEAR and an adder may stand on it, else NOT_FOUND. */
         private int usable(int number, int limit) {
-            return has(number) && depths[number >> 1] < limit ? number : NOT_FOUND;
+            if (!isOddNumber(number)) {
+                return NOT_FOUND;
+            }
+            int i = number >> 1;
+            return ways[i] >= 0 && depths[i] < limit ? number : NOT_FOUND;
         }
     }
 
