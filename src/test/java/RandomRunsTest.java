@@ -3,6 +3,8 @@ import java.util.Random;
 /** Long runs of calls, made by a fixed seed, each answer held against the slow Reference. */
 public final class RandomRunsTest {
   private static final int RUNS = 400, CALLS = 512;
+  // What lookAtAll() calls, and a few more: behind its 512th call an object's answers are free.
+  private static final int LAST_LOOK = 120;
   private static final int[] EDGES = {Integer.MIN_VALUE, -100000, -99999, -10, -9, -3, -2, -1, 0, 1, 2, 3, 9, 10, 11,
     12, 13, 79, 80, 255, 256, 511, 512, 513, 1021, 1022, 1023, 1024, 1025, 99999, 100000, Integer.MAX_VALUE};
   private static int wrong = 0;
@@ -86,7 +88,7 @@ public final class RandomRunsTest {
 
   private void tell() {
     String story = story();
-    for (int i = 0; i < story.length() && calls < CALLS - 2; i++) {
+    for (int i = 0; i < story.length() && calls < CALLS - LAST_LOOK; i++) {
       int letter = story.charAt(i);
       due("type(" + letter + ")", x.type(letter), ref.type(letter));
     }
@@ -183,7 +185,7 @@ public final class RandomRunsTest {
   }
 
   private void go() {
-    while (calls < CALLS - 140) {
+    while (calls < CALLS - LAST_LOOK - 20) {
       int die = random.nextInt(run % 2 == 0 ? 60 : 300);
       if (die == 0) tell();
       else if (die < 4) lookNear();
@@ -194,6 +196,7 @@ public final class RandomRunsTest {
       else change();
     }
     lookAtAll();
+    if (calls > CALLS) throw new IllegalStateException("a run of " + calls + " calls");
   }
 
   public static void main(String[] args) {
