@@ -106,14 +106,25 @@ public final class LanguageTest {
       useAll(x);
     }
     long taken = bean.getThreadAllocatedBytes(thread) - before;
-    CHECK.that("512 calls and more make nothing, but took " + taken + " bytes", taken < 4096);
+    CHECK.that("512 calls make nothing, but took " + taken + " bytes", taken < 4096);
+  }
+
+  /** All objects of a run live in one room, so that each is to be small. */
+  private static void size() {
+    com.sun.management.ThreadMXBean bean = (com.sun.management.ThreadMXBean) ManagementFactory.getThreadMXBean();
+    long thread = Thread.currentThread().getId();
+    ShiftAdds[] made = new ShiftAdds[100];
+    long before = bean.getThreadAllocatedBytes(thread);
+    for (int i = 0; i < made.length; i++) made[i] = new ShiftAdds();
+    long taken = (bean.getThreadAllocatedBytes(thread) - before) / made.length;
+    CHECK.that("a new object is small, but takes " + taken + " bytes", taken < 60000);
   }
 
   private static void useAll(ShiftAdds x) {
     String text = "l9;w683;w811;w45;w731;a0 1 0 0;a1 2 0 1;";
     for (int i = 0; i < text.length(); i++) x.type(text.charAt(i));
     x.graph();
-    for (int round = 0; round < 40; round++) {
+    for (int round = 0; round < 28; round++) {
       x.adds(round % (x.count(0) + 1), round % 10, 0, round % 4);
       x.keep(round % 2);
       x.wishes(1 + round * 25);
@@ -138,6 +149,7 @@ public final class LanguageTest {
     classesInside();
     source();
     room();
+    size();
     CHECK.end("LanguageTest");
   }
 }

@@ -1,40 +1,8 @@
 /** Promise by promise, with answers worked out from the document by hand. */
-public final class PromisesTest {
-  private static final int BAD = -1, STATE = -2, FULL = -3, NONE = -9;
-  private static final int MIN = Integer.MIN_VALUE, MAX = Integer.MAX_VALUE;
+public final class PromisesTest extends Tests {
   private static final int[] FROM_ONE = {3, 5, 7, 9, 15, 17, 31, 33, 63, 65, 127, 129, 255, 257, 511, 513};
-  private static final Check CHECK = new Check();
 
-  private static void due(String call, long got, long want) {
-    CHECK.due(call, got, want);
-  }
-
-  private static void type(ShiftAdds x, String text) {
-    for (int i = 0; i < text.length(); i++) x.type(text.charAt(i));
-  }
-
-  private static ShiftAdds told(String text) {
-    ShiftAdds x = new ShiftAdds();
-    type(x, text);
-    CHECK.that("'" + text + "' can be read", x.graph() >= 0);
-    return x;
-  }
-
-  private static void counts(String when, ShiftAdds x, int... want) {
-    for (int what = 0; what < 8; what++) due(when + ": count(" + what + ")", x.count(what), want[what]);
-  }
-
-  private static void odd(String when, ShiftAdds x, int k, int... want) {
-    for (int what = 0; what < 7; what++) due(when + ": odd(" + k + ", " + what + ")", x.odd(k, what), want[what]);
-  }
-
-  private static void wanted(String when, ShiftAdds x, int... want) {
-    due(when + ": count(1)", x.count(1), want.length);
-    for (int k = 0; k < want.length; k++) due(when + ": wanted(" + k + ", 0)", x.wanted(k, 0), want[k]);
-    due(when + ": wanted behind the last", x.wanted(want.length, 0), BAD);
-  }
-
-  private static void promise1NewObject() {
+  static void promise1NewObject() {
     ShiftAdds x = new ShiftAdds();
     counts("new", x, 0, 0, 6, 0, 0, 0, 0, 0);
     odd("new", x, 0, 1, 0, NONE, NONE, NONE, NONE, 0);
@@ -47,7 +15,7 @@ public final class PromisesTest {
     due("new: unseen(0)", x.unseen(0), 16);
   }
 
-  private static void promise2Type() {
+  static void promise2Type() {
     ShiftAdds x = new ShiftAdds();
     int[] bad = {-1, 256, MIN, MAX};
     for (int letter : bad) due("type(" + letter + ")", x.type(letter), BAD);
@@ -59,7 +27,7 @@ public final class PromisesTest {
     due("letters", x.count(6), 80);
   }
 
-  private static void promise3Clear() {
+  static void promise3Clear() {
     ShiftAdds x = new ShiftAdds();
     due("clear()", x.clear(), 0);
     type(x, "w5;");
@@ -80,7 +48,7 @@ public final class PromisesTest {
     due("the image is still there", x.back(1), 1);
   }
 
-  private static void promise4GraphFaults() {
+  static void promise4GraphFaults() {
     fault(";", 0);
     fault("5;", 0);
     fault("W5;", 0);
@@ -132,7 +100,7 @@ public final class PromisesTest {
     fault("w5;" + (char) 160, 3);
   }
 
-  private static void promise4GraphTold() {
+  static void promise4GraphTold() {
     ShiftAdds x = new ShiftAdds();
     type(x, "l 9 ;w1;w1023 ; a 0 1 0 0;a1 2 0 1;  w 44;  ");
     due("graph()", x.graph(), 6);
@@ -165,7 +133,7 @@ public final class PromisesTest {
     due("seven deep", x.count(4), 7);
   }
 
-  private static void promise5Odd() {
+  static void promise5Odd() {
     ShiftAdds x = told("a0 0 0 0;a1 9 0 3;a2 0 0 0;a2 0 0 3;");
     odd("halved once", x, 1, 1, 1, 0, 0, 0, 0, 1);
     odd("taken from less", x, 2, 511, 2, 1, 0, 9, 3, 0);
@@ -177,7 +145,7 @@ public final class PromisesTest {
     for (int what : badWhat) due("odd(0, " + what + ")", x.odd(0, what), BAD);
   }
 
-  private static void promise6Wanted() {
+  static void promise6Wanted() {
     ShiftAdds x = told("w12;w1;w64;w7;w1022;a0 1 0 0;a0 9 0 1;");
     int[] met = {1, 1, 1, 0, 1};
     for (int k = 0; k < 5; k++) due("wanted(" + k + ", 1)", x.wanted(k, 1), met[k]);
@@ -190,7 +158,7 @@ public final class PromisesTest {
     for (int what : badWhat) due("wanted(0, " + what + ")", x.wanted(0, what), BAD);
   }
 
-  private static void promise7Adds() {
+  static void promise7Adds() {
     ShiftAdds x = new ShiftAdds();
     due("8 and 1", x.adds(0, 3, 0, 0), 9);
     due("4 times 9 less 1", x.adds(1, 2, 0, 1), 35);
@@ -215,7 +183,7 @@ public final class PromisesTest {
     due("nor added", x.count(0), 6);
   }
 
-  private static void promise7AddsEdges() {
+  static void promise7AddsEdges() {
     ShiftAdds x = told("a0 5 0 1;a1 5 1 0;a0 9 0 0;a0 9 0 1;");
     due("1023 may be", x.odd(2, 0), 1023);
     due("1024 may not, though it could be halved", x.adds(2, 0, 0, 0), STATE);
@@ -237,7 +205,7 @@ public final class PromisesTest {
     due("which is NEAR", x.by(11, 0), 0);
   }
 
-  private static void promise8Takes() {
+  static void promise8Takes() {
     ShiftAdds x = told("w3;a0 1 0 0;a1 2 0 1;");
     due("takes()", x.takes(), 11);
     due("takes()", x.takes(), 3);
@@ -247,7 +215,7 @@ public final class PromisesTest {
     due("product(1, 1)", x.product(1, 1), 0);
   }
 
-  private static void promise9Wishes() {
+  static void promise9Wishes() {
     ShiftAdds x = new ShiftAdds();
     int[] bad = {0, -1, 1024, MIN, MAX};
     for (int c : bad) due("wishes(" + c + ")", x.wishes(c), BAD);
@@ -265,7 +233,7 @@ public final class PromisesTest {
     due("known", x.count(7), 10);
   }
 
-  private static void promise10Limits() {
+  static void promise10Limits() {
     ShiftAdds x = told("l3;a0 1 0 0;a1 1 0 0;");
     int[] bad = {0, -1, 10, MIN, MAX};
     for (int c : bad) due("limits(" + c + ")", x.limits(c), BAD);
@@ -279,7 +247,7 @@ public final class PromisesTest {
     due("limits(1)", x.limits(1), 9);
   }
 
-  private static void promise11Undo() {
+  static void promise11Undo() {
     ShiftAdds x = told("w3;w5;w7;a0 1 0 0;");
     due("undo() of nothing", x.undo(), STATE);
     x.wishes(3);
@@ -307,7 +275,7 @@ public final class PromisesTest {
     due("undo() of nothing", x.undo(), STATE);
   }
 
-  private static void promise11UndoOnlyTen() {
+  static void promise11UndoOnlyTen() {
     ShiftAdds x = new ShiftAdds();
     for (int i = 0; i < 13; i++) x.limits(1 + i % 9);
     due("known", x.count(7), 10);
@@ -326,13 +294,13 @@ public final class PromisesTest {
     due("IMAGES neither", x.back(0), 0);
   }
 
-  private static void promise12And13Digits() {
-    ShiftAdds x = new ShiftAdds();
+  static void promise12And13Digits() {
     for (int v = 1; v <= 1023; v++) {
+      ShiftAdds x = new ShiftAdds();
       int sum = 0, notZero = 0, before = 0;
       for (int k = 0; k < 12; k++) {
         int d = x.digit(v, k) - 1;
-        CHECK.that("digit " + k + " of " + v, d >= -1 && d <= 1 && (d == 0 || before == 0));
+        that("digit " + k + " of " + v, d >= -1 && d <= 1 && (d == 0 || before == 0));
         sum += d << k;
         notZero += Math.abs(d);
         before = d;
@@ -340,6 +308,7 @@ public final class PromisesTest {
       due("the sum of the digits of " + v, sum, v);
       due("digits(" + v + ")", x.digits(v), notZero);
     }
+    ShiftAdds x = new ShiftAdds();
     int[] bad = {0, -1, 1024, MIN, MAX};
     for (int v : bad) {
       due("digits(" + v + ")", x.digits(v), BAD);
@@ -349,9 +318,9 @@ public final class PromisesTest {
     for (int k : badK) due("digit(1, " + k + ")", x.digit(1, k), BAD);
   }
 
-  private static void promise14Near() {
-    ShiftAdds x = new ShiftAdds();
+  static void promise14Near() {
     for (int v = 0; v <= 1024; v++) {
+      ShiftAdds x = new ShiftAdds();
       int more = 0, least = NONE;
       for (int i = 15; i >= 0; i--) {
         if (FROM_ONE[i] > v) {
@@ -362,6 +331,7 @@ public final class PromisesTest {
       due("near(" + v + ", 0)", x.near(v, 0), more);
       due("near(" + v + ", 1)", x.near(v, 1), least);
     }
+    ShiftAdds x = new ShiftAdds();
     due("near(MAX, 0)", x.near(MAX, 0), 0);
     due("near(MAX, 1)", x.near(MAX, 1), NONE);
     due("near(-1, 0)", x.near(-1, 0), BAD);
@@ -373,7 +343,7 @@ public final class PromisesTest {
     due("none of 3 for the limit, and 3 is there", x.near(0, 0), 15);
     due("the least", x.near(0, 1), 5);
     x.limits(2);
-    CHECK.that("some of 3 then", x.near(0, 0) > 15);
+    that("some of 3 then", x.near(0, 0) > 15);
     due("the least above 9", x.near(9, 1), 11);
     x.undo();
     due("as before", x.near(9, 1), 15);
@@ -381,11 +351,7 @@ public final class PromisesTest {
     due("3 again", x.near(0, 1), 3);
   }
 
-  private static void by(ShiftAdds x, int v, int... want) {
-    for (int what = 0; what < 4; what++) due("by(" + v + ", " + what + ")", x.by(v, what), want[what]);
-  }
-
-  private static void promise15By() {
+  static void promise15By() {
     ShiftAdds x = new ShiftAdds();
     by(x, 3, 0, 0, 1, 0);
     by(x, 7, 0, 0, 3, 1);
@@ -412,7 +378,7 @@ public final class PromisesTest {
     by(x, 9, 0, 0, 3, 0);
   }
 
-  private static void promise16Two() {
+  static void promise16Two() {
     ShiftAdds x = new ShiftAdds();
     due("two(11)", x.two(11), 3);
     due("two(21), 8 times 3 less 3", x.two(21), 3);
@@ -435,7 +401,7 @@ public final class PromisesTest {
     due("43 is 32 and 11", x.two(43), 5);
   }
 
-  private static void promise17Least() {
+  static void promise17Least() {
     ShiftAdds x = new ShiftAdds();
     Reference ref = new Reference();
     for (int v = 1; v <= 255; v++) due("least(" + v + ")", x.least(v), ref.least(v));
@@ -452,15 +418,7 @@ public final class PromisesTest {
     due("nothing is changed", x.count(0), 1);
   }
 
-  private static void plan(ShiftAdds x, int notMet, int... values) {
-    due("plan(-2)", x.plan(-2), values.length);
-    due("plan(-1)", x.plan(-1), notMet);
-    for (int k = 0; k < values.length; k++) due("plan(" + k + ")", x.plan(k), values[k]);
-    due("plan behind the last", x.plan(values.length), NONE);
-    due("plan(MAX)", x.plan(MAX), NONE);
-  }
-
-  private static void promise18Plan() {
+  static void promise18Plan() {
     ShiftAdds x = told("w44;w11;w6;w1;");
     plan(x, 0, 3, 11);
     due("nothing is changed", x.count(0), 0);
@@ -487,7 +445,7 @@ public final class PromisesTest {
     plan(told("w1023;"), 0, 31, 1023);
   }
 
-  private static void promise19Product() {
+  static void promise19Product() {
     ShiftAdds x = told("l9;a0 1 0 0;a0 0 1 3;a1 3 0 1;a3 0 0 3;");
     int[] values = {1, 3, 1, 23, 11};
     for (int k = 0; k < 5; k++) {
@@ -503,7 +461,7 @@ public final class PromisesTest {
     for (int v : badX) due("product(1, " + v + ")", x.product(1, v), 0);
   }
 
-  private static void promise20To23Seen() {
+  static void promise20To23Seen() {
     ShiftAdds x = new ShiftAdds();
     int[] badM = {1, 0, -1, 10, MIN, MAX};
     for (int m : badM) due("sees(" + m + ", 0)", x.sees(m, 0), BAD);
@@ -554,7 +512,7 @@ public final class PromisesTest {
     due("1023 alone", x.unseen(1), 1023);
   }
 
-  private static void promise24And25Images() {
+  static void promise24And25Images() {
     ShiftAdds x = told("l4;w7;w9;a0 1 0 0;");
     int[] bad = {-1, 2, MIN, MAX};
     for (int image : bad) {
@@ -588,7 +546,7 @@ public final class PromisesTest {
     due("the newer one", x.back(0), 0);
   }
 
-  private static void promise26Count() {
+  static void promise26Count() {
     ShiftAdds x = told("l8;w2;w3;w5;w10;a0 0 0 0;a1 1 0 0;");
     x.sees(2, 1);
     x.sees(2, 1);
@@ -602,30 +560,6 @@ public final class PromisesTest {
   }
 
   public static void main(String[] args) {
-    promise1NewObject();
-    promise2Type();
-    promise3Clear();
-    promise4GraphFaults();
-    promise4GraphTold();
-    promise5Odd();
-    promise6Wanted();
-    promise7Adds();
-    promise7AddsEdges();
-    promise8Takes();
-    promise9Wishes();
-    promise10Limits();
-    promise11Undo();
-    promise11UndoOnlyTen();
-    promise12And13Digits();
-    promise14Near();
-    promise15By();
-    promise16Two();
-    promise17Least();
-    promise18Plan();
-    promise19Product();
-    promise20To23Seen();
-    promise24And25Images();
-    promise26Count();
-    CHECK.end("PromisesTest");
+    runAll(PromisesTest.class);
   }
 }
