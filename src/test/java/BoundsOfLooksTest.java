@@ -293,6 +293,27 @@ public final class BoundsOfLooksTest extends Tests {
     due("193 less 2 times 7", x.two(179), 193);
   }
 
+  static void twoMayBe1023() {
+    ShiftAdds x = told("l3;w839;a0 5 0 1;a1 3 0 3;");
+    due("31 less 8, two deep", x.odd(2, 1), 2);
+    by(x, 1023, 1, 1, 5, 0);
+    due("1023 less 8 times 23, three deep", x.two(839), 1023);
+    plan(x, 0, 1023, 839);
+    x.limits(2);
+    due("not two deep", x.two(839), NONE);
+    plan(x, 1);
+  }
+
+  static void aNearNumberAsDeepAsTheLimitIsNoTwo() {
+    ShiftAdds x = told("l2;w899;a0 5 0 1;");
+    by(x, 1023, 1, 1, 5, 0);
+    due("1023 less 4 times 31 would be three deep", x.two(899), NONE);
+    plan(x, 1);
+    x.limits(3);
+    due("31 times 29 may be three deep", x.two(899), 29);
+    plan(x, 0, 29, 899);
+  }
+
   static void twoIsTheLowest() {
     ShiftAdds x = new ShiftAdds();
     due("11 of 3, not of 5, 7, 9", x.two(11), 3);
