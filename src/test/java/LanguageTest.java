@@ -75,7 +75,10 @@ public final class LanguageTest {
         else fields++;
       }
       CHECK.that(c + " has at most twenty fields", fields <= 20);
-      for (Method m : c.getDeclaredMethods()) CHECK.that(m + " takes at most seven", m.getParameterCount() <= 7);
+      for (Method m : c.getDeclaredMethods()) {
+        CHECK.that(m + " takes at most seven", m.getParameterCount() <= 7);
+        for (String face : FACE) CHECK.that(m + " has a name of its own", !face.startsWith(m.getName() + "("));
+      }
     }
   }
 
